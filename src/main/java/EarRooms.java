@@ -1167,10 +1167,11 @@ public final class EarRooms {
             house.wants[tenant] = tape.passed;
             house.lodging[tenant] = NONE;
             if (tape.passWord("in")) {
-                if (house.holder(tape.number()) != NONE || !tape.passNumber(0, house.rooms - 1)) {
+                int room = tape.number();
+                if (room == NONE || house.holder(room) != NONE || !tape.passNumber(0, house.rooms - 1)) {
                     return false;
                 }
-                house.lodging[tenant] = tape.passed;
+                house.lodging[tenant] = room;
             }
             house.tenants++;
             return true;
@@ -1553,7 +1554,7 @@ public final class EarRooms {
 
     private static final class Sound {
         /** All times of all images are below. */
-        static final int TIMES = 64;
+        static final int TIMES = 48;
         /** The tenths that a wall of each sort gives back. */
         private static final int[] BACK = {0, 2, 5, 8, 9};
 
