@@ -1303,7 +1303,6 @@ public final class EarRooms {
         }
 
         private boolean line() {
-            weight[lines] = 0;
             if (tape.passWord("refuse")) {
                 kind[lines] = Law.REFUSE;
             } else {
@@ -1490,7 +1489,7 @@ public final class EarRooms {
         int balance(int[] fact) {
             int sum = 0;
             for (int line = 0; line < lines; line++) {
-                if (kind[line] != REFUSE && weight[line] > 0 && holds(line, fact)) {
+                if (kind[line] != REFUSE && holds(line, fact)) {
                     sum += kind[line] == LIKE ? weight[line] : -weight[line];
                 }
             }
@@ -1851,8 +1850,7 @@ public final class EarRooms {
         }
 
         private static int numberOf(State s, int room, int place) {
-            int n = (place / 16 - 1) * (s.deep[room] - 1) + place % 16 - 1;
-            return Math.min(Math.max(n, 0), MOST_PLACES - 1);
+            return (place / 16 - 1) * (s.deep[room] - 1) + place % 16 - 1;
         }
     }
 

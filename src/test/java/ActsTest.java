@@ -80,6 +80,8 @@ public final class ActsTest {
             + ";room 2 by 2 walls oooo rent 20;tenant purse 99 wants 9;tenant purse 19 wants 9;tenant purse 20 wants 9"
             + ";tenant purse 99 wants 9");
         Check.due("days(1)", x.days(1), 2);
+        Check.due("days(1) more", x.days(1), 2);
+        x.undo();
         int[] due = {0, NONE, 2, NONE};
         for (int tenant = 0; tenant < 4; tenant++) {
             Check.due("LODGING of " + tenant, x.tenant(tenant, 2), due[tenant]);
@@ -116,7 +118,7 @@ public final class ActsTest {
             EarRooms x = Check.house("room 2 by 2 walls oooo;room 2 by 2 walls oooo;shift " + shift);
             int[] seed = {1};
             int[] sorts = new int[8];
-            for (int day = 0; day < 20; day++) {
+            for (int day = 0; day < 300; day++) {
                 for (int room = 0; room < 2; room++) {
                     if (draw(seed) % 100 < shift) {
                         int wall = draw(seed) % 4;
@@ -124,8 +126,9 @@ public final class ActsTest {
                     }
                 }
             }
-            x.days(7);
-            x.days(13);
+            for (int k = 0; k < 6; k++) {
+                x.days(50);
+            }
             for (int wall = 0; wall < 8; wall++) {
                 Check.due("wall " + wall + " by shift " + shift, x.room(wall / 4, 2 + wall % 4), sorts[wall]);
             }

@@ -27,6 +27,7 @@ public final class LettingsTest {
         tenant();
         best();
         trade();
+        heardFirst();
         esteem();
         refuses();
         isOpen();
@@ -77,6 +78,14 @@ public final class LettingsTest {
         Check.due("BEST of 16, 15 and 16", x.tenant(0, 3), 0);
         x.take(1, 0);
         Check.due("BEST of one that is let", x.tenant(0, 3), 0);
+        // The first call of an object hears the rooms itself: 1 has two echoes more than he wants.
+        EarRooms y = Check.house("room 2 by 2 walls oooo rent 9;room 6 by 4 walls ssgf;tenant purse 9 wants 0;bounces 1");
+        Check.due("BEST of a silent one", y.tenant(0, 3), 0);
+        y.hang(0, 0, 4);
+        y.hang(0, 1, 4);
+        y.hang(1, 0, 0);
+        y.hang(1, 1, 0);
+        Check.due("BEST of one echo each", y.tenant(0, 3), 1);
         Check.due("BEST without rooms", house(rents(), rents(9)).tenant(0, 3), NONE);
     }
 
@@ -112,6 +121,13 @@ public final class LettingsTest {
         for (int tenant = 0; tenant < 4; tenant++) {
             Check.due("TRADE of several", x.tenant(tenant, 4), crossed[tenant]);
         }
+        // One without a lodging has no part, though he be the first one.
+        x.take(0, NONE);
+        int[] without = {NONE, 2, 1, 3, NONE};
+        for (int tenant = 0; tenant < 5; tenant++) {
+            Check.due("TRADE without the first one", x.tenant(tenant, 4), without[tenant]);
+        }
+        x.take(0, 0);
         // What is refused is not pointed to, his own neither; who refuses all keeps his own.
         Check.law(x, "refuse if tenant < 1;refuse if tenant > 0 and tenant < 2 and (room > 0 and room < 2 or room < 1)"
             + ";mind 9 if tenant > 1 and tenant < 3 and room > 0;refuse if tenant > 1 and tenant < 3 and room < 2");
@@ -122,6 +138,23 @@ public final class LettingsTest {
         for (int tenant = 0; tenant < 4; tenant++) {
             Check.due("TRADE of who refuses his own", x.tenant(tenant, 4), refusing[tenant]);
         }
+    }
+
+    /** Each call hears the rooms as they are now, though it be the first one of an object. */
+    private static void heardFirst() {
+        Check.promise("Promises 8 to 10, 35 to 38, 46");
+        String text = "room 6 by 4 walls ssgf rent 10;room 2 by 2 walls oooo rent 12;tenant purse 40 wants 0 in 0"
+            + ";tenant purse 40 wants 0 in 1;bounces 1";
+        Check.due("esteem(0, 0)", Check.house(text).esteem(0, 0), 0);
+        String law = "refuse if echoes > 1;like 30 if echoes > 1 and tenant < 1";
+        Check.due("refuses(0, 0)", Check.law(Check.house(text), law).refuses(0, 0), true);
+        Check.due("lets(NONE)", Check.law(Check.house(text), law).lets(NONE), 12);
+        Check.due("earns(0, 1)", Check.law(Check.house(text), "refuse if echoes < 2").earns(0, 1), 2);
+        Check.due("moves()", Check.house(text).moves(), 1);
+        Check.due("rests(0, 1, 0)", Check.law(Check.house(text), "mind 4").rests(0, 1, 0), 8);
+        Check.due("TRADE", Check.law(Check.house(text), "mind 50 if still and tenant > 0").tenant(0, 4), 1);
+        Check.due("ahead(1, 1)", Check.law(Check.house(text), "refuse if echoes < 1").ahead(1, 1), NONE);
+        Check.due("ahead(0, 1)", Check.law(Check.house(text), "refuse if echoes < 1").ahead(0, 1), 0);
     }
 
     private static void esteem() {
@@ -229,6 +262,8 @@ public final class LettingsTest {
         Check.due("hinge() of a star", doors(2, 0, 2, 1, 2, 3, 2, 4).hinge(), 4);
         Check.due("hinge() of a ring", doors(0, 1, 1, 2, 2, 3, 3, 4, 4, 0).hinge(), 0);
         Check.due("hinge() of two rings", doors(0, 1, 1, 2, 2, 0, 2, 3, 3, 4, 4, 2).hinge(), 4);
+        Check.due("hinge() of the first one", doors(0, 1, 0, 2).hinge(), 1);
+        Check.due("hinge() of the last one", doors(4, 1, 4, 2).hinge(), 16);
         Check.due("hinge() of two wings", doors(0, 1, 1, 2, 3, 4).hinge(), 2);
     }
 
@@ -261,6 +296,17 @@ public final class LettingsTest {
         for (int tenant = 0; tenant < 5; tenant++) {
             Check.due("lets(" + tenant + ") of five", z.lets(tenant), five[tenant]);
         }
+        // Who has none leaves the first room to the next one.
+        EarRooms w = house(rents(5), rents(4, 9));
+        Check.due("lets(0) of a poor one", w.lets(0), NONE);
+        Check.due("lets(1) behind a poor one", w.lets(1), 0);
+        // What was told of more tenants is gone when one goes back.
+        w.image();
+        Check.tell(w, "tenant purse 9 wants 9;room 2 by 2 walls oooo rent 7;room 2 by 2 walls oooo rent 9");
+        w.house();
+        Check.due("lets(NONE) of three", w.lets(NONE), 16);
+        w.back();
+        Check.due("lets(NONE) of two", w.lets(NONE), 5);
         Check.law(z, "refuse");
         Check.due("lets(NONE) of none", z.lets(NONE), 0);
         Check.due("lets(4) of none", z.lets(4), NONE);
@@ -283,6 +329,11 @@ public final class LettingsTest {
         Check.due("moves() by 0 and less", x.moves(), 2 + 4);
         Check.law(x, "refuse if tenant > 0 and tenant < 2 and room > 0;mind 50");
         Check.due("moves() of who refuses others", x.moves(), 0);
+        Check.law(x, "refuse;like 50");
+        Check.due("moves() of who refuses all", x.moves(), 0);
+        EarRooms y = house(rents(1, 5), rents(9, 9));
+        y.take(0, 1);
+        Check.due("moves() to the first room", y.moves(), 3);
         // From one that he refuses, to one of less esteem, he would not move.
         Check.law(x, "refuse if tenant < 1 and room > 1");
         Check.due("moves() to a worse one", x.moves() & 1, 0);
@@ -487,6 +538,42 @@ public final class LettingsTest {
         }
     }
 
+    /** Over many houses: each of the six seeds is alone at an end of some, and a seventh one would be too. */
+    private static void fromSixSeeds() {
+        boolean[] alone = new boolean[8];
+        for (int ear = 50; ear < 450; ear += 9) {
+            EarRooms x = Check.house("room 4 by 4 walls oooo;room 5 by 5 walls oooo;room 3 by 3 walls oooo"
+                + ";room 4 by 6 walls oooo;room 6 by 4 walls oooo;tenant purse 9 wants 0;tenant purse 9 wants 0"
+                + ";tenant purse 9 wants 0;tenant purse 9 wants 0;tenant purse 9 wants 0;shift 90;bounces 1;ear " + ear);
+            Check.law(x, "refuse if not still");
+            for (int n = 3; n < 20; n += 3) {
+                int[] let = new int[8];
+                for (int seed = 0; seed < 8; seed++) {
+                    x.seed(seed);
+                    let[seed] = Integer.bitCount(x.trial(n, false));
+                }
+                int least = 5;
+                int most = 0;
+                for (int seed = 1; seed <= 6; seed++) {
+                    least = Math.min(least, let[seed]);
+                    most = Math.max(most, let[seed]);
+                }
+                Check.due("span(" + n + ", false) by an ear of " + ear, x.span(n, false), least);
+                Check.due("span(" + n + ", true) by an ear of " + ear, x.span(n, true), most);
+                for (int seed = 0; seed < 8; seed++) {
+                    boolean others = false;
+                    for (int other = 1; other <= 6; other++) {
+                        others |= other != seed && let[other] == let[seed];
+                    }
+                    alone[seed] |= !others && (let[seed] <= least || let[seed] >= most);
+                }
+            }
+        }
+        for (int seed = 0; seed < 8; seed++) {
+            Check.due("seed " + seed + " is alone at an end", alone[seed], true);
+        }
+    }
+
     private static void span() {
         Check.promise("Promise 48");
         Check.due("span(60, true) without any", new EarRooms().span(60, true), 0);
@@ -510,6 +597,7 @@ public final class LettingsTest {
             Check.due("span(" + n + ", true)", x.span(n, true), most);
             different += least < most ? 1 : 0;
         }
+        fromSixSeeds();
         Check.due("spans of unlike ends", different > 0, true);
         Check.due("SEED stays", x.seed(77), 77);
         Check.due("the walls stay", x.sort(0), 12);

@@ -48,6 +48,7 @@ public final class SoundTest {
             Check.thrown("room(" + room + ", 0)", INDEX, () -> x.room(room, 0));
         }
         Check.thrown("room(3, 14)", INDEX, () -> x.room(3, 14));
+        Check.due("DIN, asked first", three().room(1, 10), 33);
         mute();
         missed();
         dear();
@@ -81,6 +82,14 @@ public final class SoundTest {
         Check.due("MISSED of three walls", x.room(0, 11), 3);
         x.hang(0, 3, 3);
         Check.due("MISSED of four walls", x.room(0, 11), 0);
+        // Each room by its own walls: north is open here, all four are hard there.
+        EarRooms r = Check.house("room 6 by 4 walls ssss;room 6 by 4 walls ssso;room 6 by 4 walls osss;bounces 1");
+        Check.due("MISSED of room 0", r.room(0, 11), 0);
+        Check.due("MISSED of room 1", r.room(1, 11), 3);
+        Check.due("MISSED of room 2", r.room(2, 11), 0);
+        r.hang(2, 0, 3);
+        r.hang(2, 2, 0);
+        Check.due("MISSED of room 2 then", r.room(2, 11), 2);
         // Two bounces: without the east wall less is lost than without the west one, where no other echo is near.
         EarRooms y = Check.house("room 5 by 5 walls soos;bounces 2;ear 60");
         Check.due("ECHOES", y.room(0, 8), 3);
@@ -96,6 +105,9 @@ public final class SoundTest {
         Check.due("DEAR of 15 and twice 9", x.room(0, 12), 9);
         Check.law(x, "refuse if 0 < tenant;like 50;mind 1 if rent > 5");
         Check.due("DEAR of 69", x.room(0, 12), 69);
+        Check.law(x, "like 50;like 50");
+        Check.due("DEAR of 99", x.room(0, 12), 99);
+        Check.due("DEAR of 1", Check.house("room 2 by 2 walls oooo;tenant purse 1 wants 9").room(0, 12), 1);
         Check.law(x, "refuse");
         Check.due("DEAR of none", x.room(0, 12), 0);
         Check.due("RENT stays", x.room(0, 6), 50);
@@ -196,9 +208,28 @@ public final class SoundTest {
         Check.due("north", loudAt(y, 0, 1, 5, 14), 35);
         Check.due("south twice", loudAt(y, 0, 1, 5, 34), 11);
         Check.due("north twice", loudAt(y, 0, 1, 5, 38), 5);
+        Check.tell(y, "deaf west");
+        y.house();
+        Check.due("south, deaf in the west", loudAt(y, 0, 1, 5, 10), 90);
+        // 6 and 8 are 10 off, to the very unit.
+        EarRooms u = Check.house("room 12 by 12 walls gogo;bounces 2;ear 0");
+        Check.due("6 and 8", loudAt(u, 0, 3, 4, 10), 81);
+        Check.due("nothing at 9", loudAt(u, 0, 3, 4, 9), NONE);
         // Round a corner: 4 and 4, the root of 32, of 800 and 200 tenths: 1000 to 800 to 160 by 5.
         EarRooms z = Check.house("room 4 by 4 walls sofo;bounces 2;ear 0");
         Check.due("west and south", loudAt(z, 0, 2, 2, 5), 160 / 5);
+        // An echo as low as can be heard: 200 tenths thrice, 8, by 6.
+        EarRooms low = Check.house("room 2 by 2 walls fooo;bounces 3;ear 0;at 0 1 1");
+        low.hang(0, 1, 1);
+        Check.tell(low, "deaf west");
+        low.house();
+        Check.due("west twice and east twice, deaf to one", loudAt(low, 0, 1, 1, 6), 1);
+        Check.due("clap() hears it", low.clap(), low.echo(0, 1, 1, NONE, false));
+        Check.due("last() tells it", low.last(0, 1, 1), 6);
+        Check.rows(low, 6, 1);
+        Check.due("where() knows it", low.where(0, false), 1);
+        EarRooms lowest = Check.house("room 12 by 2 walls oofo;bounces 3;ear 0;at 0 1 1");
+        Check.due("loud 1 and less", lowest.echo(0, 1, 1, NONE, false), 1);
         // Each bounce is rounded down by itself: 1000, 200, 40, 20.
         EarRooms f = Check.house("room 2 by 2 walls fcoo;bounces 3;ear 0");
         Check.due("west twice, east once", loudAt(f, 0, 1, 1, 6), 1000 * 2 / 10 * 2 / 10 * 5 / 10 / 6
@@ -367,6 +398,15 @@ public final class SoundTest {
         w.house();
         // West: out, nothing, nothing. East: nothing, 2, out.
         Check.due("ask by the worst ear", w.ask(0), 1);
+        // The largest room: all its places but those at the north wall are silent by this ear.
+        EarRooms v = Check.house("room 12 by 12 walls ooos;bounces 1;ear 400");
+        Check.rows(v, 2, 1);
+        // 11 places at Y 11: a step west or east leaves one out, ten of 2; south all silent; north all out.
+        Check.due("ask in the largest room", v.ask(0), 0);
+        v.hang(0, 1, 4);
+        // East of them X 11 has 450 and 400 together: a step east tells it and what is out from nine others.
+        Check.rows(v, 2, 1);
+        Check.due("ask of 21 places", v.ask(0), 0);
         wrongRows("ask", x::ask, x);
     }
 
@@ -507,6 +547,9 @@ public final class SoundTest {
         Check.due("hangs of two", y.hangs(0, 2, true), 2);
         Check.due("hangs of two", y.hangs(0, 2, false), 0);
         Check.due("hangs of another size", y.hangs(0, 3, true), NONE);
+        EarRooms sizes = Check.house("room 6 by 4 walls oooo;room 6 by 5 walls oooo;room 5 by 4 walls oooo");
+        Check.due("hangs of another depth", sizes.hangs(0, 1, true), NONE);
+        Check.due("hangs of another width", sizes.hangs(0, 2, true), NONE);
         // From nothing: 800 by 6 in the west or in the east, 900 by 4 in the south or the north: the least number.
         Check.due("hangs from nothing", y.hangs(2, 0, true), 2);
         Check.due("hangs from nothing", y.hangs(2, 0, false), 3 * 25 + 4);

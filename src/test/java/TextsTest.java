@@ -198,9 +198,33 @@ public final class TextsTest {
         Check.due("EAR by 14 lines", Check.house(fourteen).count(6), 2);
         wrongHouse(two, fourteen + "; ear 3", 85);
         wrongHouse(two, fourteen + ";", 84);
+        endsTooSoon();
+        wrongHouse(two, "earz 5", 0);
+        wrongHouse(two, "ear 5z", 5);
+        wrongHouse(two, "ear 5 ;zear 5", 7);
+        wrongHouse(two, ";".repeat(400), 0);
+        wrongHouse(two, "ear 5" + ";".repeat(395), 6);
+        Check.due("EAR by a text of 400 bytes", Check.house("ear 5;" + " ".repeat(389) + "ear 7").count(6), 7);
         wrongHouse("", "door 0 1", 5);
         wrongHouse("", "at 0 1 1", 3);
         wrongHouse("", "tenant purse 1 wants 1 in 0", 26);
+    }
+
+    /** Of a text that ends too soon the length is told; of one that goes on otherwise the thing that does. */
+    private static void endsTooSoon() {
+        String[] lines = {"room 4 by 4 walls ssss rent 9", "tenant purse 1 wants 1 in 0", "door 0 1", "at 0 1 1", "deaf west",
+            "bounces 2", "shift 4", "day 4", "ear 4"};
+        for (String line : lines) {
+            for (int to = line.indexOf(' '); to > 0; to = line.indexOf(' ', to + 1)) {
+                String text = line.substring(0, to);
+                if (!text.endsWith("ssss") && !text.endsWith("wants 1")) {
+                    wrongHouse(ROOM + ";" + ROOM, text, to);
+                    wrongHouse(ROOM + ";" + ROOM, text + "  ", to + 2);
+                    wrongHouse(ROOM + ";" + ROOM, text + ";ear 5", to);
+                    wrongHouse(ROOM + ";" + ROOM, text + " ?", to + 1);
+                }
+            }
+        }
     }
 
     private static void law() {
@@ -269,6 +293,14 @@ public final class TextsTest {
         holds("((((((open))))))", true);
         holds("(not(not(not open)))", false);
         holds("(open) and (open) and (open) and (open) and (open) and (open) and (open) and (open)", true);
+        // Nothing of the law before comes into the next one.
+        EarRooms z = Check.house("room 2 by 2 walls oooo;tenant purse 0 wants 0");
+        Check.law(z, "refuse if 99 + 99 > wide and 99 > wide");
+        Check.due("refuses by 99", z.refuses(0, 0), true);
+        Check.law(z, "refuse if 1 > wide");
+        Check.due("refuses by 1", z.refuses(0, 0), false);
+        Check.law(z, "like 50 if 1 > wide;like 7;refuse if wide > 2");
+        Check.due("esteem by 7", z.esteem(0, 0), 27);
         // Of a room without doors and echoes.
         EarRooms x = Check.house("room 2 by 2 walls oooo;tenant purse 0 wants 0");
         Check.law(x, "like 1 if still;like 2 if open;like 4 if loudest < 1;mind 8 if echoes < 1;like 16;mind 3");
@@ -323,6 +355,16 @@ public final class TextsTest {
         wrongLaw("refuse if not(not(not(not still", 22);
         wrongLaw("refuse if not(not(not still and (open", 37);
         wrongLaw("room 4 by 4 walls ssss", 0);
+        wrongLaw("refuse if wide zz", 15);
+        String line = "like 1 if not ( wide + 2 < 3 and still or open ) or 4 > day";
+        for (int to = line.indexOf(' '); to > 0; to = line.indexOf(' ', to + 1)) {
+            String text = line.substring(0, to);
+            if (!text.equals("like 1") && !text.endsWith(")")) {
+                wrongLaw(text, to);
+                wrongLaw(text + ";mind 1", to);
+                wrongLaw(text + " ?", to + 1);
+            }
+        }
     }
 
     private static void fault() {
