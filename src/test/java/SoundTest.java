@@ -452,6 +452,10 @@ public final class SoundTest {
         // West 6 steps of the middle there is no place of both: the other room is too narrow.
         EarRooms z = Check.house("room 12 by 12 walls oooo;room 4 by 12 walls oofo;bounces 1;ear 100");
         Check.due("apart of a narrow one", z.apart(0, 1), 5);
+        // Off the narrow room the east wall would be in the west, where nobody is deaf; but there is no place.
+        EarRooms n = Check.house("room 12 by 12 walls oooo;room 4 by 12 walls ogoo;bounces 1;ear 300;deaf east");
+        Check.due("apart of a narrow one by none", n.apart(0, 1), NONE);
+        Check.due("apart of a narrow one by none", n.apart(1, 0), NONE);
         // What both middles hear is alike, though the rooms are not of one size; off it they are told apart.
         EarRooms w = Check.house("room 4 by 4 walls sooo;room 5 by 4 walls sooo;bounces 1;ear 0");
         Check.due("apart of like west walls", w.apart(0, 1), NONE);
@@ -520,6 +524,10 @@ public final class SoundTest {
         z.house();
         Check.due("best(false) of a narrow one", z.best(false), 17);
         Check.due("best(true) of a narrow one", z.best(true), 0);
+        // The first room may be the narrow one, in depth too.
+        EarRooms f = Check.house("room 3 by 2 walls oooo;room 6 by 3 walls oooo;room 6 by 3 walls ofof;bounces 1;ear 100");
+        Check.due("best(false) of a narrow first one", f.best(false), 17);
+        Check.due("best(true) of a narrow first one", f.best(true), 0);
         // And one with a wall in the north: it is heard at Y 2.
         Check.tell(z, "room 12 by 3 walls ooof");
         z.house();
