@@ -1,4 +1,7 @@
+import java.io.IOException;
 import java.nio.charset.StandardCharsets;
+import java.nio.file.Files;
+import java.nio.file.Path;
 import java.util.Arrays;
 
 /** What the promise tests share: telling texts, and counting the calls whose answer is not the one that is due. */
@@ -11,6 +14,19 @@ final class Check {
 
     static void promise(String name) {
         promise = name;
+    }
+
+    /** What is checked from here on is one sentence of the document, which is to have these words. */
+    static void sentence(String where, String words) {
+        promise = where + " \"" + words + "\"";
+        Path document = Path.of("../shared/DOC.md");
+        try {
+            if (Files.isReadable(document) && !Files.readString(document).contains(words)) {
+                System.out.println("(the document has no such words any more: " + promise + ")");
+            }
+        } catch (IOException e) {
+            System.out.println("(the document cannot be read: " + e.getMessage() + ")");
+        }
     }
 
     static void due(String call, long got, long want) {
@@ -91,6 +107,75 @@ final class Check {
         tell(x, text);
         x.law();
         return x;
+    }
+
+    /** The text has a ^ ahead of its first wrong byte: it is told to a copy of this house, of which nothing changes. */
+    static void wrongHouse(String begin, String marked) {
+        EarRooms x = house(begin);
+        tell(x, marked.replace("^", ""));
+        String was = full(x);
+        thrown("house() of " + marked, IllegalArgumentException.class, x::house);
+        due("fault() of " + marked, x.fault(), marked.indexOf('^'));
+        due("the house after " + marked, full(x), was);
+        due("end(1) after " + marked, x.end(1), false);
+    }
+
+    static EarRooms rightHouse(String begin, String text) {
+        EarRooms x = house(begin);
+        tell(x, text);
+        int told = -2;
+        try {
+            told = x.house();
+        } catch (RuntimeException e) {
+            told = -3;
+        }
+        due("house() of " + text, told, 2);
+        due("fault() of " + text, x.fault(), EarRooms.NONE);
+        return x;
+    }
+
+    /** The same for a text of the law. */
+    static void wrongLaw(EarRooms x, String marked) {
+        law(x, "like 7;refuse if open");
+        tell(x, marked.replace("^", ""));
+        String was = full(x);
+        thrown("law() of " + marked, IllegalArgumentException.class, x::law);
+        due("fault() of " + marked, x.fault(), marked.indexOf('^'));
+        due("the law after " + marked, full(x), was);
+        due("end(1) after " + marked, x.end(1), false);
+    }
+
+    static void rightLaw(EarRooms x, String text, int lines) {
+        tell(x, text);
+        int told = -2;
+        try {
+            told = x.law();
+        } catch (RuntimeException e) {
+            told = -3;
+        }
+        due("law() of " + text, told, lines);
+        due("fault() of " + text, x.fault(), EarRooms.NONE);
+    }
+
+    /** All that can be seen of a house, its law and its log, by fewer calls than half of those that an object has. */
+    static String full(EarRooms x) {
+        StringBuilder all = new StringBuilder(picture(x));
+        int rooms = x.count(0);
+        for (int room = 0; room < rooms; room++) {
+            for (int other = 0; other < room; other++) {
+                all.append(x.isOpen(room, other) ? " open" : " shut");
+            }
+            for (int tenant = 0; tenant < x.count(1); tenant++) {
+                all.append(' ').append(x.esteem(tenant, room)).append(x.refuses(tenant, room) ? "-" : "+");
+            }
+        }
+        int rows = Math.min(12, x.count(12));
+        for (int row = 0; row < rows; row++) {
+            for (int what = 0; what < 4; what++) {
+                all.append(' ').append(x.log(row, what));
+            }
+        }
+        return all.toString();
     }
 
     /** All that can be seen of a house without using much of the calls that an object has. */
