@@ -27,6 +27,7 @@ public final class ActsEdgesTest {
         rents();
         takes();
         logged();
+        lowest();
         led();
         whichAreActs();
         twelve();
@@ -546,6 +547,18 @@ public final class ActsEdgesTest {
                 Check.due("LOUD of row " + row, x.log(row, 3), is ? loud[row % 15] : NONE);
             }
         }
+        // Rows that were pushed out come back with the clap's being undone, all of them.
+        StringBuilder was = new StringBuilder();
+        StringBuilder is = new StringBuilder();
+        for (int row = 30; row < 60; row++) {
+            was.append(x.log(row, 0)).append(' ').append(x.log(row, 2)).append(' ').append(x.log(row, 3)).append(';');
+        }
+        x.clap();
+        x.undo();
+        for (int row = 30; row < 60; row++) {
+            is.append(x.log(row, 0)).append(' ').append(x.log(row, 2)).append(' ').append(x.log(row, 3)).append(';');
+        }
+        Check.due("rows of a clap undone", is.toString(), was.toString());
         // One row more: the oldest clap has one less, that of the greatest TIME.
         Check.tell(x, "bounces 1;at 1 5 1");
         x.house();
@@ -572,6 +585,19 @@ public final class ActsEdgesTest {
             Check.thrown("log(0, " + what + ")", ELEMENT, () -> x.log(0, what));
             Check.thrown("log(0, " + what + ") without rows", ELEMENT, () -> new EarRooms().log(0, what));
         }
+    }
+
+    private static void lowest() {
+        Check.sentence("Terms", "(of each clap those of the greatest TIME first, so that the first one is the latest)");
+        // An echo of LOUD 1, by the greatest TIME that there is: 46.
+        EarRooms x = Check.house("room 12 by 2 walls fgoo;bounces 3;ear 0;at 0 1 1;room 2 by 2 walls ffoo;deaf east");
+        Check.due("clap()", x.clap(), 5);
+        int[][] due = {{2, 100}, {22, 20}, {24, 10}, {26, 1}, {46, 1}};
+        for (int row = 0; row < 5; row++) {
+            Check.due("TIME of row " + row, x.log(row, 2), due[row][0]);
+            Check.due("LOUD of row " + row, x.log(row, 3), due[row][1]);
+        }
+        Check.due("log(5, 2)", x.log(5, 2), NONE);
     }
 
     private static void led() {

@@ -1,5 +1,9 @@
 import java.math.BigInteger;
+import java.util.ArrayList;
 import java.util.Arrays;
+import java.util.List;
+import java.util.NoSuchElementException;
+import java.util.function.ToIntFunction;
 
 /** The edges that the document names of doors, tenants, rents, odds, and days that are only thought of. */
 public final class LodgingEdgesTest {
@@ -8,6 +12,9 @@ public final class LodgingEdgesTest {
     private static final Class<IllegalArgumentException> ARGUMENT = IllegalArgumentException.class;
 
     public static void main(String[] args) {
+        whats();
+        esteems();
+        asked();
         doors();
         lets();
         best();
@@ -52,6 +59,123 @@ public final class LodgingEdgesTest {
             all[tenant] = x.tenant(tenant, 2);
         }
         return all;
+    }
+
+    private static void whats() {
+        int[] none = {-1, Integer.MAX_VALUE, Integer.MIN_VALUE};
+        EarRooms x = Check.house("room 2 by 3 walls fcsg rent 7;room 2 by 2 walls oooo;tenant purse 8 wants 9 in 0;ear 0;bounces 1");
+        Check.sentence("Promise 7", "7 who has it (NONE)");
+        // West, east and south are together at 2, north is at 4: each wall alone would be missed by one of both.
+        int[] due = {2, 3, 1, 2, 3, 4, 7, 0, 2, 0, 17, 0, 8, 100};
+        for (int what = 0; what < due.length; what++) {
+            Check.due("room(0, " + what + ")", x.room(0, what), due[what]);
+            int asked = what;
+            Check.thrown("room(-1, " + what + ")", INDEX, () -> x.room(-1, asked));
+            Check.thrown("room(2, " + what + ")", INDEX, () -> x.room(2, asked));
+        }
+        Check.due("room(1, 7)", x.room(1, 7), NONE);
+        for (int what : of(-1, 14, 15, Integer.MAX_VALUE, Integer.MIN_VALUE)) {
+            Check.thrown("room(0, " + what + ")", NoSuchElementException.class, () -> x.room(0, what));
+            Check.thrown("room(2, " + what + ")", INDEX, () -> x.room(2, what));
+        }
+        Check.sentence("Promise 8", "2 LODGING (NONE), 3 BEST (NONE), 4 TRADE (NONE)");
+        int[] of = {8, 9, 0, 1, 0};
+        for (int what = 0; what < of.length; what++) {
+            Check.due("tenant(0, " + what + ")", x.tenant(0, what), of[what]);
+            int asked = what;
+            Check.thrown("tenant(-1, " + what + ")", INDEX, () -> x.tenant(-1, asked));
+            Check.thrown("tenant(1, " + what + ")", INDEX, () -> x.tenant(1, asked));
+        }
+        for (int what : of(-1, 5, 6, Integer.MAX_VALUE, Integer.MIN_VALUE)) {
+            Check.thrown("tenant(0, " + what + ")", NoSuchElementException.class, () -> x.tenant(0, what));
+            Check.thrown("tenant(1, " + what + ")", INDEX, () -> x.tenant(1, what));
+        }
+        x.take(0, NONE);
+        Check.law(x, "refuse");
+        for (int what = 2; what < 5; what++) {
+            Check.due("tenant(0, " + what + ") of none", x.tenant(0, what), NONE);
+        }
+    }
+
+    private static void esteems() {
+        Check.sentence("Promise 9", "ESTEEM");
+        EarRooms x = house(of(0, 99), of(99, 98));
+        for (int none : of(-1, 2, 5, Integer.MAX_VALUE, Integer.MIN_VALUE)) {
+            Check.thrown("esteem(" + none + ", 0)", INDEX, () -> x.esteem(none, 0));
+            Check.thrown("esteem(0, " + none + ")", INDEX, () -> x.esteem(0, none));
+            Check.thrown("refuses(" + none + ", 0)", INDEX, () -> x.refuses(none, 0));
+            Check.thrown("refuses(0, " + none + ")", INDEX, () -> x.refuses(0, none));
+        }
+        Check.due("esteem(0, 0)", x.esteem(0, 0), 20);
+        Check.due("esteem(1, 1)", x.esteem(1, 1), -79);
+        Check.sentence("Promise 10", "REFUSES");
+        Check.due("refuses(0, 1)", x.refuses(0, 1), false);
+        Check.due("refuses(1, 1)", x.refuses(1, 1), true);
+        Check.due("refuses(1, 0)", x.refuses(1, 0), false);
+    }
+
+    private static EarRooms lively() {
+        EarRooms x = Check.house("room 6 by 4 walls ssgf rent 10;room 6 by 4 walls ssgf rent 12;room 3 by 8 walls oofo rent 1"
+            + ";tenant purse 40 wants 1 in 0;tenant purse 25 wants 0 in 1;tenant purse 9 wants 2;door 0 1;bounces 1;shift 30");
+        return Check.law(x, "like 9 if tenant < 1 and echoes > 1 and room > 0;like 9 if tenant > 0 and open and room < 1"
+            + ";mind 3 if loudest > 270;refuse if tenant > 1 and still");
+    }
+
+    /** What a call answers is the same, whether it is the first one of an object or comes behind all the others. */
+    private static void asked() {
+        Check.sentence("Not promised", "Nothing is promised beyond the answers and state changes described above");
+        List<ToIntFunction<EarRooms>> all = new ArrayList<>();
+        for (int what = 8; what < 14; what++) {
+            for (int room = 0; room < 3; room++) {
+                int w = what;
+                int r = room;
+                all.add(x -> x.room(r, w));
+            }
+        }
+        for (int tenant = 0; tenant < 3; tenant++) {
+            int t = tenant;
+            all.add(x -> x.tenant(t, 3));
+            all.add(x -> x.tenant(t, 4));
+            all.add(x -> x.lets(t));
+            all.add(x -> x.ahead(t, 3));
+            for (int room = 0; room < 3; room++) {
+                int r = room;
+                all.add(x -> x.esteem(t, r));
+                all.add(x -> x.refuses(t, r) ? 1 : 0);
+                all.add(x -> x.earns(r, 5));
+                all.add(x -> x.rests(t, (t + 1) % 3, r));
+            }
+        }
+        all.add(x -> x.lets(NONE));
+        all.add(EarRooms::moves);
+        all.add(EarRooms::still);
+        all.add(EarRooms::twins);
+        all.add(x -> x.best(false));
+        all.add(x -> x.best(true));
+        all.add(x -> x.apart(0, 1));
+        all.add(x -> x.hangs(0, 1, false));
+        all.add(x -> x.trial(4, true));
+        all.add(x -> x.span(4, true));
+        all.add(x -> x.span(4, false));
+        for (int change = 0; change < 2; change++) {
+            EarRooms busy = lively();
+            for (ToIntFunction<EarRooms> call : all) {
+                call.applyAsInt(busy);
+            }
+            for (int k = 0; k < all.size(); k++) {
+                EarRooms fresh = lively();
+                if (change == 1) {
+                    fresh.hang(1, 2, 0);
+                    fresh.hang(2, 2, 4);
+                    if (k == 0) {
+                        busy.hang(1, 2, 0);
+                        busy.hang(2, 2, 4);
+                    }
+                }
+                int first = all.get(k).applyAsInt(fresh);
+                Check.due("call " + k + " as the first one and behind others", all.get(k).applyAsInt(busy), first);
+            }
+        }
     }
 
     private static void doors() {
@@ -578,6 +702,10 @@ public final class LodgingEdgesTest {
         }
         Check.thrown("ahead(1, 0)", INDEX, () -> x.ahead(1, 0));
         Check.thrown("ahead(-1, 0)", INDEX, () -> x.ahead(-1, 0));
-        Check.thrown("ahead(NONE, 0) without TENANTS", INDEX, () -> new EarRooms().ahead(0, 0));
+        Check.thrown("ahead(0, 0) without TENANTS", INDEX, () -> new EarRooms().ahead(0, 0));
+        // Walls are as they are: by draws they would be hung, and all would be heard.
+        EarRooms y = Check.law(Check.house("room 4 by 4 walls oooo;tenant purse 0 wants 9;shift 100;ear 0"), "refuse if not still");
+        Check.due("ahead(0, 60) by a SHIFT of 100", y.ahead(0, 60), 0);
+        Check.due("trial(60, false) by a SHIFT of 100", y.trial(60, false), 0);
     }
 }

@@ -40,6 +40,7 @@ public final class TermsEdgesTest {
         noLine();
         deep();
         firstWrongByte();
+        moreMustCome();
         nothingStays();
         Check.end("TermsEdgesTest");
     }
@@ -259,6 +260,10 @@ public final class TermsEdgesTest {
             Check.due("DEAF " + sides[deaf], x.count(7), deaf);
             Check.due("LOUD in the west, deaf " + sides[deaf], loudAt(x, 0, 1, 6, 2), loud[deaf][0]);
             Check.due("LOUD in the east, deaf " + sides[deaf], loudAt(x, 0, 3, 6, 2), loud[deaf][1]);
+            for (int other = 0; other < 3; other++) {
+                Check.due("DEAF " + sides[other] + " behind " + sides[deaf],
+                    Check.rightHouse("deaf " + sides[deaf], "deaf " + sides[other]).count(7), other);
+            }
         }
         for (String side : new String[] {"north", "south", "both", "no", "nones", "wes", "eastt", "0", "1", "2"}) {
             Check.wrongHouse("", "deaf ^" + side);
@@ -761,6 +766,10 @@ public final class TermsEdgesTest {
         Check.wrongHouse("", "^`ear 5");
         Check.wrongHouse("", "^{ear 5");
         Check.wrongHouse("", "ear^_5");
+        Check.wrongHouse("", "^earz 5");
+        Check.wrongHouse("", "^aear 5");
+        Check.wrongHouse("", "ear 5 ^z");
+        Check.wrongHouse("", "ear 5^a");
         Check.wrongLaw(one(), "^likeif 5");
         Check.wrongLaw(one(), "refuse ^ifstill");
         Check.wrongLaw(one(), "refuse if ^stillor open");
@@ -876,6 +885,93 @@ public final class TermsEdgesTest {
         Check.wrongLaw(one(), "refuse if still or^");
         Check.wrongLaw(one(), "refuse;^");
         Check.wrongLaw(one(), "like" + " ".repeat(396) + "^");
+        // As many things as a text can have bytes, and a text whose last byte is its last thing.
+        Check.wrongHouse("", "^" + ";".repeat(400));
+        Check.wrongLaw(one(), "^" + "(".repeat(400));
+        Check.wrongHouse("", "ear 5;^" + ";".repeat(394));
+        Check.wrongHouse("", " ".repeat(394) + "ear 5;^");
+        Check.due("EAR of the last byte", Check.rightHouse("", " ".repeat(395) + "ear 7").count(6), 7);
+        longestSums();
+    }
+
+    /** Of each line every beginning: where it may end (marked by a bar) it is right, elsewhere more must come. */
+    private static void moreMustCome() {
+        Check.sentence("Terms", "or the text's length, if more must come");
+        String[] lines = {"room 4 by 4 walls ssss | rent 9 |", "tenant purse 1 wants 1 | in 0 |", "door 0 1 |", "at 0 1 1 |",
+            "deaf west |", "deaf none |", "bounces 2 |", "shift 4 |", "day 4 |", "ear 4 |"};
+        String two = SMALL + ";" + SMALL;
+        for (String line : lines) {
+            StringBuilder text = new StringBuilder();
+            String[] things = line.split(" ");
+            for (int k = 0; k < things.length; k++) {
+                boolean ends = k + 1 < things.length && things[k + 1].equals("|");
+                if (!things[k].equals("|")) {
+                    text.append(k == 0 ? "" : " ").append(things[k]);
+                    if (ends) {
+                        Check.rightHouse(two, text.toString());
+                        Check.rightHouse(two, text + ";ear 5");
+                    } else {
+                        Check.wrongHouse(two, text + "^");
+                        Check.wrongHouse(two, text + "  ^");
+                        Check.wrongHouse(two, text + "^;ear 5");
+                    }
+                    Check.wrongHouse(two, text + " ^?");
+                    Check.wrongHouse(two, text + " ^1000");
+                    Check.wrongHouse(two, text + " ^xx");
+                }
+            }
+        }
+        String[] laws = {"like 5 | if still |", "mind 50 | if open | or open | and still |", "refuse | if not still |",
+            "refuse | if ( still ) |", "refuse | if wide + 1 < 2 | + deep | and 1 > 2 | + day | or not ( still and open ) |",
+            "refuse | if tenant < room | + rent | + echoes | + loudest | + day | + wide | + deep |"};
+        for (String law : laws) {
+            StringBuilder text = new StringBuilder();
+            String[] things = law.split(" ");
+            for (int k = 0; k < things.length; k++) {
+                boolean ends = k + 1 < things.length && things[k + 1].equals("|");
+                if (!things[k].equals("|")) {
+                    text.append(k == 0 ? "" : " ").append(things[k]);
+                    if (ends) {
+                        Check.rightLaw(one(), text.toString(), 1);
+                        Check.rightLaw(one(), text + ";mind 1", 2);
+                    } else {
+                        Check.wrongLaw(one(), text + "^");
+                        Check.wrongLaw(one(), text + "  ^");
+                        Check.wrongLaw(one(), text + "^;mind 1");
+                    }
+                    Check.wrongLaw(one(), text + " ^?");
+                    Check.wrongLaw(one(), text + " ^1000");
+                    Check.wrongLaw(one(), text + " ^xx");
+                }
+            }
+        }
+    }
+
+    /** Conditions of 400 bytes: the greatest sum, the most atoms. */
+    private static void longestSums() {
+        EarRooms x = one();
+        String sum = "999" + "+999".repeat(94);
+        Check.rightLaw(x, "refuse if " + sum + "<0", 1);
+        Check.due("refuses by the greatest sum", x.refuses(0, 0), false);
+        Check.rightLaw(x, "refuse if 0<" + sum, 1);
+        Check.due("refuses by less than it", x.refuses(0, 0), true);
+        String parts = "1" + "+1".repeat(191);
+        Check.rightLaw(x, "refuse if " + parts + ">191", 1);
+        Check.due("refuses by 192 parts above 191", x.refuses(0, 0), true);
+        Check.rightLaw(x, "refuse if " + parts + ">192", 1);
+        Check.due("refuses by 192 parts above 192", x.refuses(0, 0), false);
+        String atoms = "1<0" + " or 1<0".repeat(54);
+        Check.rightLaw(x, "refuse if " + atoms, 1);
+        Check.due("refuses by 55 atoms", x.refuses(0, 0), false);
+        Check.rightLaw(x, "refuse if " + atoms + " or 0<1", 1);
+        Check.due("refuses by the last of 56", x.refuses(0, 0), true);
+        String both = "0<1" + "and 0<1".repeat(54);
+        Check.rightLaw(x, "refuse if " + both, 1);
+        Check.due("refuses by 55 atoms that hold", x.refuses(0, 0), true);
+        Check.rightLaw(x, "refuse if " + both + "and 1<0", 1);
+        Check.due("refuses by all but the last of 56", x.refuses(0, 0), false);
+        Check.rightLaw(x, "refuse if 1<0" + "or(0<1)".repeat(54), 1);
+        Check.due("refuses by the second of 55", x.refuses(0, 0), true);
     }
 
     private static void nothingStays() {
