@@ -17,6 +17,7 @@ public final class LodgingEdgesTest {
         asked();
         doors();
         lets();
+        letsOfAll();
         best();
         moves();
         tradeRings();
@@ -284,6 +285,54 @@ public final class LodgingEdgesTest {
         Check.sentence("Promise 35", "how much (tenant NONE), or where one is; NONE");
         for (int tenant : of(2, 5, -2, Integer.MAX_VALUE, Integer.MIN_VALUE)) {
             Check.thrown("lets(" + tenant + ")", INDEX, () -> x.lets(tenant));
+        }
+    }
+
+    /** LETS by trying all ways one behind another: the first one of those by which the most is paid. */
+    private static void letsOfAll() {
+        Check.sentence("Terms", "TENANTS put to ROOMS anew, each one at most, so that RENTS of all that are let together are the most");
+        int seed = 1;
+        for (int k = 0; k < 300; k++) {
+            int[] rents = new int[k % 6];
+            int[] purses = new int[k / 6 % 6];
+            for (int room = 0; room < rents.length; room++) {
+                seed = 1103515245 * seed + 12345;
+                rents[room] = (seed >>> 16) % 4;
+            }
+            for (int tenant = 0; tenant < purses.length; tenant++) {
+                seed = 1103515245 * seed + 12345;
+                purses[tenant] = (seed >>> 16) % 4;
+            }
+            int[] best = new int[purses.length + 1];
+            best[purses.length] = -1;
+            tryAll(rents, purses, new int[purses.length], 0, best);
+            letTo("of " + Arrays.toString(rents) + " by " + Arrays.toString(purses), house(rents, purses), best[purses.length],
+                Arrays.copyOf(best, purses.length));
+        }
+    }
+
+    /** Puts the tenants from this one on, none first; the best way so far has what is paid behind it. */
+    private static void tryAll(int[] rents, int[] purses, int[] way, int tenant, int[] best) {
+        if (tenant == purses.length) {
+            int paid = 0;
+            for (int room : way) {
+                paid += room == NONE ? 0 : rents[room];
+            }
+            if (paid > best[tenant]) {
+                System.arraycopy(way, 0, best, 0, tenant);
+                best[tenant] = paid;
+            }
+            return;
+        }
+        for (int room = NONE; room < rents.length; room++) {
+            boolean free = true;
+            for (int other = 0; other < tenant; other++) {
+                free &= room == NONE || way[other] != room;
+            }
+            if (free && (room == NONE || rents[room] <= purses[tenant])) {
+                way[tenant] = room;
+                tryAll(rents, purses, way, tenant + 1, best);
+            }
         }
     }
 

@@ -1,4 +1,6 @@
 import java.util.Arrays;
+import java.util.HashMap;
+import java.util.Map;
 
 /** The edges that the document names of images, echoes, and what one learns by them: both sides of each edge. */
 public final class SoundEdgesTest {
@@ -24,6 +26,7 @@ public final class SoundEdgesTest {
         rows();
         where();
         step();
+        stepOfAll();
         known();
         apart();
         twins();
@@ -178,6 +181,8 @@ public final class SoundEdgesTest {
         }
         // Half of 1 is nothing, and then there is no echo.
         Check.due("1 and 1", reply(Check.house("room 2 by 2 walls ffoo;bounces 3;ear 0"), 0, 1, 1), "2:200 4:20 6:2");
+        EarRooms lowest = Check.house("room 2 by 2 walls ffoo;bounces 3;ear 0;deaf east");
+        Check.due("LAST of LOUD 1", lowest.last(0, 1, 1), 6);
         Check.due("1 and half of 1",
             reply(Check.house("room 2 by 2 walls ffoo;bounces 3;ear 0;deaf east"), 0, 1, 1), "2:150 4:15 6:1");
         Check.due("what is not 1",
@@ -319,6 +324,13 @@ public final class SoundEdgesTest {
         for (int open = 0; open < 4; open++) {
             Check.due("MISSED of " + walls[open], Check.house("room 12 by 6 walls " + walls[open] + ";bounces 1").room(0, 11), open);
         }
+        // Each room by its own walls.
+        EarRooms all = Check.house("room 12 by 6 walls gggg;room 12 by 6 walls gogg;room 12 by 6 walls ggog;room 12 by 6 walls gggo"
+            + ";room 12 by 6 walls oggg;bounces 1");
+        for (int room = 0; room < 5; room++) {
+            Check.due("MISSED of room " + room, all.room(room, 11), room == 4 ? 0 : room);
+            Check.due("the WALLS stay", all.sort(4), 16);
+        }
         Check.due("MISSED of nothing", Check.house("room 12 by 6 walls oooo").room(0, 11), 0);
         Check.due("MISSED of two open ones", Check.house("room 12 by 6 walls goog").room(0, 11), 1);
     }
@@ -438,6 +450,60 @@ public final class SoundEdgesTest {
         bytes(w, 2, 1);
         // X 1 and 3: a step west is out, 4; one east is 4, out; south and north both are out.
         Check.due("of two unlike ones", w.ask(0), 0);
+    }
+
+    /** STEP by trying each side at each place that fits, in rooms of all kinds of sizes. */
+    private static void stepOfAll() {
+        Check.sentence("Terms", "STEP: the side to which a step parts those that fit, by REPLY there (those without a PLACE there are one part)");
+        int[] dx = {-1, 1, 0, 0};
+        int[] dy = {0, 0, -1, 1};
+        String[] rooms = {"3 by 4 walls fcsg", "5 by 4 walls goso", "4 by 6 walls offg", "5 by 5 walls cooc", "2 by 7 walls oogc",
+            "7 by 2 walls gcoo", "6 by 3 walls oggo", "4 by 4 walls sssf", "3 by 6 walls ooog", "6 by 4 walls ogof"};
+        boolean[] chosen = new boolean[4];
+        for (int k = 0; k < 4 * rooms.length; k++) {
+            String room = "room 2 by 2 walls oooo;room " + rooms[k / 4] + ";bounces " + (1 + k % 2) + ";ear " + 90 * (k % 4);
+            EarRooms x = Check.house(room);
+            int wide = x.room(1, 0);
+            int deep = x.room(1, 1);
+            String[][] replies = new String[wide][deep];
+            for (int px = 1; px < wide; px++) {
+                for (int py = 1; py < deep; py++) {
+                    replies[px][py] = " " + reply(x, 1, px, py) + " ";
+                }
+            }
+            for (int time = 2; time <= 6; time += 2) {
+                int least = 999;
+                int due = NONE;
+                int many = 0;
+                for (int side = 0; side < 4; side++) {
+                    Map<String, Integer> parts = new HashMap<>();
+                    int greatest = 0;
+                    many = 0;
+                    for (int px = 1; px < wide; px++) {
+                        for (int py = 1; py < deep; py++) {
+                            if (replies[px][py].contains(" " + time + ":")) {
+                                boolean is = px + dx[side] >= 1 && px + dx[side] < wide && py + dy[side] >= 1 && py + dy[side] < deep;
+                                String there = is ? replies[px + dx[side]][py + dy[side]] : "out";
+                                greatest = Math.max(greatest, parts.merge(there, 1, Integer::sum));
+                                many++;
+                            }
+                        }
+                    }
+                    if (greatest < least) {
+                        least = greatest;
+                        due = side;
+                    }
+                }
+                due = many < 2 ? NONE : due;
+                EarRooms y = Check.house(room);
+                bytes(y, time, 1);
+                Check.due("ask(1) of " + room + " by " + time, y.ask(1), due);
+                if (due != NONE) {
+                    chosen[due] = true;
+                }
+            }
+        }
+        Check.due("each side is chosen", chosen[0] && chosen[1] && chosen[2] && chosen[3], true);
     }
 
     private static void known() {

@@ -33,6 +33,7 @@ public final class TermsEdgesTest {
         lawLines();
         lawNumbers();
         lawWords();
+        conditions();
         esteem();
         refuses();
         words();
@@ -681,6 +682,20 @@ public final class TermsEdgesTest {
             }
             x.door(two, one, false);
         }
+        // Each of the numbers, by what is one less, and by itself.
+        EarRooms n3 = Check.house("room 2 by 2 walls oooo;room 9 by 7 walls goso rent 5;tenant purse 9 wants 9;day 77;bounces 1");
+        String[] parts = {"tenant", "room", "wide", "deep", "rent", "echoes", "loudest", "day"};
+        int[] are = {0, 1, 9, 7, 5, 2, 133, 77};
+        for (int k = 0; k < parts.length; k++) {
+            Check.law(n3, "refuse if " + parts[k] + " > " + are[k] + " or " + parts[k] + " < " + are[k]);
+            Check.due(parts[k] + " is " + are[k], n3.refuses(0, 1), false);
+            Check.law(n3, "refuse if " + parts[k] + " + 1 > " + are[k] + " and " + parts[k] + " < 1 + " + are[k]);
+            Check.due(parts[k] + " is not another one than " + are[k], n3.refuses(0, 1), true);
+            // And twice in a sum it counts twice.
+            Check.law(n3, "refuse if " + parts[k] + "+" + parts[k] + "+1>" + 2 * are[k] + " and " + parts[k] + "+" + parts[k] + "<1+"
+                + 2 * are[k]);
+            Check.due("twice " + parts[k], n3.refuses(0, 1), true);
+        }
         // tenant and room are their numbers.
         EarRooms y = Check.house(times(SMALL, 5) + ";" + times("tenant purse 9 wants 9", 5));
         for (int n = 0; n < 5; n++) {
@@ -692,6 +707,39 @@ public final class TermsEdgesTest {
             for (int room = 0; room < 5; room++) {
                 Check.due("room is " + n, y.refuses(4, room), room == n);
             }
+        }
+    }
+
+    private static void conditions() {
+        Check.sentence("Terms", "C: ALL { or ALL }; ALL: ATOM { and ATOM }; ATOM: not ATOM | ( C ) | still | open | SUM < SUM | SUM > SUM");
+        // Of a still room without doors: still holds, open does not; a sum is less, or it is not.
+        String[][] words = {{"open", "1 < 0", "0 > 1", "not still", "not 0 < 1", "(open)", "not not open"},
+            {"still", "0 < 1", "1 > 0", "not open", "not 1 < 0", "(still)", "not not still"}};
+        for (int k = 0; k < 7; k++) {
+            holds(words[0][k], false);
+            holds(words[1][k], true);
+        }
+        for (int n = 0; n < 256; n++) {
+            boolean a = (n & 1) != 0;
+            boolean b = (n & 2) != 0;
+            boolean c = (n & 4) != 0;
+            boolean firstIsAnd = (n & 8) != 0;
+            boolean secondIsAnd = (n & 16) != 0;
+            String first = firstIsAnd ? " and " : " or ";
+            String second = secondIsAnd ? " and " : " or ";
+            int kind = n >> 5;
+            String[] said = {words[a ? 1 : 0][(kind + 3) % 7], words[b ? 1 : 0][(kind + 5) % 7], words[c ? 1 : 0][kind % 7]};
+            boolean plain = firstIsAnd ? secondIsAnd ? a && b && c : a && b || c : secondIsAnd ? a || b && c : a || b || c;
+            holds(said[0] + first + said[1] + second + said[2], plain);
+            boolean left = firstIsAnd ? a && b : a || b;
+            holds("(" + said[0] + first + said[1] + ")" + second + said[2], secondIsAnd ? left && c : left || c);
+            boolean right = secondIsAnd ? b && c : b || c;
+            holds(said[0] + first + "(" + said[1] + second + said[2] + ")", firstIsAnd ? a && right : a || right);
+            holds("not (" + said[0] + first + said[1] + second + said[2] + ")", !plain);
+            // not is of the next atom alone.
+            boolean na = !a;
+            boolean not = firstIsAnd ? secondIsAnd ? na && b && c : na && b || c : secondIsAnd ? na || b && c : na || b || c;
+            holds("not " + said[0] + first + said[1] + second + said[2], not);
         }
     }
 
