@@ -431,6 +431,13 @@ public final class ActsEdgesTest {
         Check.due("clap() of none", x.clap(), 0);
         Check.due("CLAPS", x.count(11), 2);
         Check.due("rows", x.count(12), 15);
+        // So many calls are not promised to one object, and still there is no other way to that edge.
+        EarRooms many = Check.house("room 12 by 2 walls fooo;bounces 1;at 0 5 1");
+        for (int clap = 0; clap <= 10005; clap++) {
+            Check.due("CLAPS", many.count(11), Math.min(clap, 9999));
+            Check.due("clap()", many.clap(), 1);
+            Check.due("CLAPS of the latest row", many.log(0, 0), Math.min(clap, 9999));
+        }
         Check.sentence("Promise 16", "IllegalStateException: he is nowhere");
         EarRooms y = Check.house("room 12 by 12 walls gggg");
         Check.thrown("clap()", STATE, y::clap);

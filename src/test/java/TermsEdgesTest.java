@@ -655,6 +655,10 @@ public final class TermsEdgesTest {
         for (int room = 0; room < 4; room++) {
             Check.due("loudest < 1 of " + room, x.refuses(0, room), none[room]);
         }
+        Check.law(x, "refuse if loudest + 1 > 0 and loudest + 1 < 2");
+        for (int room = 0; room < 4; room++) {
+            Check.due("loudest + 1 of " + room, x.refuses(0, room), none[room]);
+        }
         Check.law(x, "refuse if still");
         for (int room = 0; room < 4; room++) {
             Check.due("still of " + room, x.refuses(0, room), none[room]);
